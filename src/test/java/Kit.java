@@ -94,10 +94,10 @@ final class Kit {
         return x.fault();
     }
 
-    /** All that can be seen without the tape: two objects of like sight have answered alike everywhere. */
+    /** All that is undone and kept, as it can be seen: the tape, the fault and the acts remembered are not in it. */
     static String sight(LateInks x) {
         StringBuilder out = new StringBuilder();
-        for (int i = 0; i <= 11; i++) {
+        for (int i = 0; i <= 10; i++) {
             out.append(x.count(i)).append(' ');
         }
         for (int i = 0; i < x.count(0); i++) {

@@ -43,8 +43,10 @@ public final class TextTest {
                 Kit.is("deed " + d + " " + what, x.deed(d, what), due[d][what]);
             }
         }
+        Kit.is("the least may be told", Kit.portFault(x, "party 0;ink age 1 keeps 0 soaks 0;"
+                + "deed ink 0 from 0 to 1 sum 0 term 0 on 0 but 0;damp spring 0;salt 0;spray 0"), -1);
         Kit.is("soaks without keeps", Kit.portFault(x, "ink age 3 soaks 4"), -1);
-        Kit.is("soaks", x.ink(2, 2), 4);
+        Kit.is("soaks", x.ink(3, 2), 4);
     }
 
     private static void wrongPort(String text, int due) {
@@ -64,6 +66,9 @@ public final class TextTest {
         wrongPort("party  ", 7);
         wrongPort("Party 1", 0);
         wrongPort("partys 1", 0);
+        wrongPort("partyz 1", 0);
+        wrongPort("xarty 1", 0);
+        wrongPort("salt 1;ialt 1", 7);
         wrongPort("party -1", 6);
         wrongPort("party 1000", 6);
         wrongPort("party 0001", 6);
