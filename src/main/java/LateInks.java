@@ -38,8 +38,6 @@ public final class LateInks {
     private final int[] tape = new int[TAPE_BYTES];
     private int tapeLength = 0;
     private final Reader reader = new Reader();
-    private final PortText portText = new PortText();
-    private final LawText lawText = new LawText();
     private final Port port = new Port();
     // Both a text being read and seasons that must not stay happen in this one.
     private final Port draft = new Port();
@@ -85,7 +83,7 @@ public final class LateInks {
         reader.open(tape, tapeLength);
         tapeLength = 0;
         draft.become(port);
-        portText.readInto(draft, reader);
+        PortText.readInto(draft, reader);
         if (port.texts >= MOST_TEXTS) {
             throw new UnsupportedOperationException();
         }
@@ -99,7 +97,7 @@ public final class LateInks {
         reader.open(tape, tapeLength);
         Law fresh = new Law(tapeLength);
         tapeLength = 0;
-        lawText.readInto(fresh, reader);
+        LawText.readInto(fresh, reader);
         port.law = fresh;
         forgetActs();
         return fresh.lineCount;
@@ -480,7 +478,7 @@ public final class LateInks {
         }
         fillWhens(0);
         market.open(port, whens);
-        return deed == NONE ? market.most() : market.buyerOf(deed);
+        return deed == NONE ? market.most() : market.buyerOf(port, deed);
     }
 
     public int rests(int party, int other, int deed) throws IndexOutOfBoundsException, IllegalArgumentException {
@@ -1580,18 +1578,14 @@ public final class LateInks {
         }
     }
 
+    /** Reads a text of THE PORT into a port; one that is wrong leaves that port half told. */
     private static final class PortText {
-        Port port = null;
-        Reader reader = null;
-
-        void readInto(Port target, Reader source) {
-            port = target;
-            reader = source;
+        static void readInto(Port port, Reader reader) {
             if (reader.kind == Reader.AT_END) {
                 return;
             }
             for (int line = 0; line < MOST_PORT_LINES; line++) {
-                readLine();
+                readLine(port, reader);
                 if (!reader.goesOn()) {
                     return;
                 }
@@ -1599,17 +1593,17 @@ public final class LateInks {
             reader.refuse();
         }
 
-        void readLine() {
+        static void readLine(Port port, Reader reader) {
             if (reader.isAtWord("party")) {
-                readParty();
+                readParty(port, reader);
             } else if (reader.isAtWord("ink")) {
-                readInk();
+                readInk(port, reader);
             } else if (reader.isAtWord("deed")) {
-                readDeed();
+                readDeed(port, reader);
             } else if (reader.isAtWord("time")) {
-                readTime();
+                readTime(port, reader);
             } else if (reader.takesWord("damp")) {
-                int season = needSeason();
+                int season = needSeason(reader);
                 port.damp[season] = reader.needNumber(0, 9);
             } else if (reader.takesWord("salt")) {
                 port.salt = reader.needNumber(0, MOST_SALT);
@@ -1619,7 +1613,7 @@ public final class LateInks {
             }
         }
 
-        void readParty() {
+        static void readParty(Port port, Reader reader) {
             if (port.partyCount >= MOST_PARTIES) {
                 reader.refuse();
             }
@@ -1630,7 +1624,7 @@ public final class LateInks {
             port.partyCount++;
         }
 
-        void readInk() {
+        static void readInk(Port port, Reader reader) {
             if (port.inkCount >= MOST_INKS) {
                 reader.refuse();
             }
@@ -1643,7 +1637,7 @@ public final class LateInks {
             port.inkCount++;
         }
 
-        void readDeed() {
+        static void readDeed(Port port, Reader reader) {
             if (port.deedCount >= MOST_DEEDS) {
                 reader.refuse();
             }
@@ -1666,7 +1660,7 @@ public final class LateInks {
             deed.barredBy = reader.takesWord("but") ? reader.needNumber(0, lastDeed) : NONE;
         }
 
-        void readTime() {
+        static void readTime(Port port, Reader reader) {
             if (port.deedCount > 0) {
                 reader.refuse();
             }
@@ -1674,7 +1668,7 @@ public final class LateInks {
             port.time = reader.needNumber(0, MOST_NUMBER);
         }
 
-        int needSeason() {
+        static int needSeason(Reader reader) {
             if (reader.takesWord("spring")) {
                 return 0;
             }
@@ -1689,24 +1683,20 @@ public final class LateInks {
         }
     }
 
+    /** Reads a text of THE LAW into a new law, conditions as codes in the order in which a stack takes them. */
     private static final class LawText {
         static final int DEEPEST = 6;
         static final int MOST_AMOUNT = 40;
 
-        Law law = null;
-        Reader reader = null;
-
-        void readInto(Law target, Reader source) {
-            law = target;
-            reader = source;
+        static void readInto(Law law, Reader reader) {
             if (reader.kind == Reader.AT_END) {
                 return;
             }
             for (int line = 0; line < MOST_LAW_LINES; line++) {
-                int kind = needKind();
+                int kind = needKind(reader);
                 int amount = reader.needNumber(0, MOST_AMOUNT);
                 if (reader.takesWord("if")) {
-                    readCondition(0);
+                    readCondition(law, reader, 0);
                 }
                 law.addLine(kind, amount);
                 if (!reader.goesOn()) {
@@ -1716,7 +1706,7 @@ public final class LateInks {
             reader.refuse();
         }
 
-        int needKind() {
+        static int needKind(Reader reader) {
             if (reader.takesWord("ripe")) {
                 return Law.RIPE;
             }
@@ -1727,13 +1717,13 @@ public final class LateInks {
             return Law.COST;
         }
 
-        void readCondition(int depth) {
-            readAtom(depth);
+        static void readCondition(Law law, Reader reader, int depth) {
+            readAtom(law, reader, depth);
             // An or waits for its code till what is joined to its right by and is whole.
             boolean orWaits = false;
             for (int i = 0; i < TAPE_BYTES; i++) {
                 if (reader.takesWord("and")) {
-                    readAtom(depth);
+                    readAtom(law, reader, depth);
                     law.addCode(Law.AND);
                 } else {
                     if (orWaits) {
@@ -1743,12 +1733,12 @@ public final class LateInks {
                         return;
                     }
                     orWaits = true;
-                    readAtom(depth);
+                    readAtom(law, reader, depth);
                 }
             }
         }
 
-        void readAtom(int depth) {
+        static void readAtom(Law law, Reader reader, int depth) {
             boolean isNot = reader.isAtWord("not");
             if (isNot || reader.isAtSign('(')) {
                 if (depth >= DEEPEST) {
@@ -1756,10 +1746,10 @@ public final class LateInks {
                 }
                 reader.advance();
                 if (isNot) {
-                    readAtom(depth + 1);
+                    readAtom(law, reader, depth + 1);
                     law.addCode(Law.NOT);
                 } else {
-                    readCondition(depth + 1);
+                    readCondition(law, reader, depth + 1);
                     reader.needSign(')');
                 }
             } else if (reader.takesWord("leaning")) {
@@ -1767,29 +1757,29 @@ public final class LateInks {
             } else if (reader.takesWord("barred")) {
                 law.addCode(Law.FIRST_FACT - Law.BARRED);
             } else {
-                readSum();
+                readSum(law, reader);
                 boolean isLess = reader.isAtSign('<');
                 reader.needSign(isLess ? '<' : '>');
-                readSum();
+                readSum(law, reader);
                 law.addCode(isLess ? Law.LESS : Law.MORE);
             }
         }
 
-        void readSum() {
-            readPart();
+        static void readSum(Law law, Reader reader) {
+            readPart(law, reader);
             for (int i = 0; i < TAPE_BYTES && reader.isAtSign('+'); i++) {
                 reader.advance();
-                readPart();
+                readPart(law, reader);
                 law.addCode(Law.PLUS);
             }
         }
 
-        void readPart() {
+        static void readPart(Law law, Reader reader) {
             if (reader.kind == Reader.AT_NUMBER) {
                 law.addCode(reader.needNumber(0, MOST_NUMBER));
                 return;
             }
-            int fact = factAtWord();
+            int fact = factAtWord(reader);
             if (fact == NONE) {
                 reader.refuse();
             }
@@ -1797,7 +1787,7 @@ public final class LateInks {
             law.addCode(Law.FIRST_FACT - fact);
         }
 
-        int factAtWord() {
+        static int factAtWord(Reader reader) {
             if (reader.isAtWord("deed")) {
                 return Law.THE_DEED;
             }
@@ -1925,32 +1915,30 @@ public final class LateInks {
     private static final class Market {
         static final int BUYER_SETS = 1 << MOST_PARTIES;
 
-        Port port = null;
         final int[] prices = new int[MOST_DEEDS];
         final int[] mosts = new int[(MOST_DEEDS + 1) * BUYER_SETS];
 
-        void open(Port source, int[] whens) {
-            port = source;
+        void open(Port port, int[] whens) {
             Arrays.fill(mosts, 0);
             for (int i = port.deedCount - 1; i >= 0; i--) {
                 prices[i] = port.priceOf(i, whens[i]);
                 for (int set = 0; set < BUYER_SETS; set++) {
-                    fillMost(i, set);
+                    fillMost(port, i, set);
                 }
             }
         }
 
-        void fillMost(int deed, int set) {
+        void fillMost(Port port, int deed, int set) {
             int most = mosts[(deed + 1) * BUYER_SETS + set];
             for (int party = 0; party < port.partyCount; party++) {
-                if (mayBuy(party, deed, set)) {
+                if (mayBuy(port, party, deed, set)) {
                     most = Math.max(most, sold(party, deed, set));
                 }
             }
             mosts[deed * BUYER_SETS + set] = most;
         }
 
-        boolean mayBuy(int party, int deed, int set) {
+        boolean mayBuy(Port port, int party, int deed, int set) {
             Deed sale = port.deeds[deed];
             return sale.state == BLANK && !sale.isOf(party) && (set >> party & 1) == 0
                     && port.parties[party].coins >= prices[deed];
@@ -1964,11 +1952,11 @@ public final class LateInks {
             return mosts[0];
         }
 
-        int buyerOf(int wanted) {
+        int buyerOf(Port port, int wanted) {
             int set = 0;
             int buyer = NONE;
             for (int deed = 0; deed <= wanted; deed++) {
-                buyer = firstBuyer(deed, set);
+                buyer = firstBuyer(port, deed, set);
                 if (buyer != NONE) {
                     set |= 1 << buyer;
                 }
@@ -1976,13 +1964,13 @@ public final class LateInks {
             return buyer;
         }
 
-        int firstBuyer(int deed, int set) {
+        int firstBuyer(Port port, int deed, int set) {
             int most = mosts[deed * BUYER_SETS + set];
             if (mosts[(deed + 1) * BUYER_SETS + set] == most) {
                 return NONE;
             }
             for (int party = 0; party < port.partyCount; party++) {
-                if (mayBuy(party, deed, set) && sold(party, deed, set) == most) {
+                if (mayBuy(port, party, deed, set) && sold(party, deed, set) == most) {
                     return party;
                 }
             }
