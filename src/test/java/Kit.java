@@ -1,4 +1,5 @@
 import java.util.NoSuchElementException;
+import java.util.function.IntConsumer;
 
 /** What all tests share: telling texts, and noting answers that are not as due. */
 final class Kit {
@@ -132,10 +133,78 @@ final class Kit {
         return out.append("| s ").append(seed).toString();
     }
 
+    /** All that calls show, but for the tape and the fault: also what only follows from what there is. */
+    static String held(LateInks x) {
+        StringBuilder out = new StringBuilder(sight(x));
+        put(out, " acts", x.count(11), x.reads(), x.blank(), x.valid(), x.broken(), x.alike(), x.richest());
+        put(out, " times", x.ruin(false), x.ruin(true), x.late(), x.trial(9, false), x.trial(9, true), x.span(9, false), x.span(9, true));
+        put(out, " sheets", x.apart(), x.soonest(false), x.soonest(true));
+        put(out, " debts", x.cleared(), x.pivot(), x.buyers(LateInks.NONE), x.odds(6, 2));
+        for (int i = 0; i < x.count(0); i++) {
+            put(out, " party", x.wealth(i, 9), x.net(i, -1), x.worth(i, 9, false), x.worth(i, 9, true), x.ring(i) ? 1 : 0);
+            for (int j = 0; j < x.count(0); j++) {
+                put(out, " owes", i == j ? 0 : x.owes(i, j));
+            }
+        }
+        for (int i = 0; i < x.count(2); i++) {
+            put(out, " deed", x.when(i), x.due(i), x.chain(i), x.hangs(i), x.buyers(i), x.early(i), x.led(i, false), x.led(i, true));
+            put(out, " ahead", x.ahead(i, 3, 0), x.ahead(i, 3, 1), x.ahead(i, 3, 2));
+            put(out, " forged", x.deed(i, 9) == LateInks.NONE ? -1 : x.forged(i) ? 1 : 0);
+            put(out, " rests", x.count(0) > 1 ? x.rests(0, 1, i) : -1);
+        }
+        return out.toString();
+    }
+
+    private static void put(StringBuilder out, String name, int... numbers) {
+        out.append(name);
+        for (int n : numbers) {
+            out.append(' ').append(n);
+        }
+    }
+
+    /** How many bytes the tape has: the most that an end takes, which then leaves them all. */
+    static int tapeLength(LateInks x) {
+        for (int n = 400; n > 0; n--) {
+            if (x.end(n)) {
+                return n;
+            }
+        }
+        return 0;
+    }
+
+    static String whole(LateInks x) {
+        return held(x) + " fault " + x.fault() + " tape " + tapeLength(x);
+    }
+
+    /** The call throws just this, and nothing that other calls show is changed by it. */
+    static void refuses(LateInks x, String what, Class<?> due, Runnable call) {
+        String before = whole(x);
+        fails(what, due, call);
+        same("behind " + what, whole(x), before);
+    }
+
+    /** Refuses all of these numbers. */
+    static void refusesAll(LateInks x, String what, Class<?> due, IntConsumer call, int... numbers) {
+        for (int n : numbers) {
+            refuses(x, what + " of " + n, due, () -> call.accept(n));
+        }
+    }
+
+    static void row(LateInks x, int ago, int time, int deed, int kind, int coins) {
+        int[] due = {time, deed, kind, coins};
+        for (int what = 0; what < 4; what++) {
+            is("log " + ago + " " + what, x.log(ago, what), due[what]);
+        }
+    }
+
     static void same(String what, String got, String want) {
         if (!got.equals(want)) {
             wrong++;
-            System.out.println(what + ":\n  got  " + got + "\n  want " + want);
+            int at = 0;
+            while (at < got.length() && at < want.length() && got.charAt(at) == want.charAt(at)) {
+                at++;
+            }
+            System.out.println(what + ", from sign " + at + " on:\n  got  .." + got.substring(at) + "\n  want .." + want.substring(at));
         }
     }
 
