@@ -27,6 +27,8 @@ public final class EdgeActsTest {
         undoes();
         actsAreThese();
         images();
+        rowsOfAnImage();
+        nothingIsLeft();
         counts();
         Kit.end();
     }
@@ -613,6 +615,72 @@ public final class EdgeActsTest {
         Kit.is("the image", x.count(6), 1);
         x.back();
         Kit.is("none are remembered", x.undo(), false);
+    }
+
+    /** THE LOG of an image is gone back to, though other rows have come in its place since. */
+    private static void rowsOfAnImage() {
+        LateInks x = Kit.made("party 9;party 9;ink age 50;" + DEED + ";" + DEED + ";" + DEED);
+        x.burn(0);
+        x.seasons(1);
+        x.burn(1);
+        x.image();
+        for (int i = 0; i < 3; i++) {
+            x.undo();
+        }
+        x.seasons(3);
+        x.burn(2);
+        x.burn(1);
+        x.burn(0);
+        Kit.row(x, 2, 3, 2, 4, 0);
+        Kit.is("back", x.back(), true);
+        Kit.is("rows", x.count(10), 2);
+        Kit.row(x, 0, 1, 1, 4, 0);
+        Kit.row(x, 1, 0, 0, 4, 0);
+        Kit.is("led", x.led(2, true), -1);
+        Kit.is("led", x.led(0, true), 0);
+        // The same for what is undone.
+        x.burn(2);
+        x.seasons(2);
+        x.undo();
+        x.undo();
+        x.warm(2, 0);
+        x.undo();
+        Kit.row(x, 0, 1, 1, 4, 0);
+        Kit.is("none beyond", x.log(2, 0), -1);
+    }
+
+    /** Things told or written behind a way back are new, whatever had their numbers, now or in seasons ahead. */
+    private static void nothingIsLeft() {
+        LateInks x = Kit.made("party 9;party 9;ink age 1");
+        x.image();
+        Kit.port(x, "party 0;ink age 1 keeps 2 soaks 3;deed ink 1 from 2 to 0 sum 9 term 1;deed ink 1 from 2 to 0 sum 9 on 0 but 0");
+        Kit.is("broke ahead", x.ruin(true), 2);
+        Kit.is("nothing left ahead", x.wealth(2, 80), 0);
+        Kit.is("broke in a trial", x.trial(80, true), 4);
+        x.seasons(9);
+        Kit.is("broke", x.broken(), 4);
+        x.ruin(true);
+        x.wealth(0, 80);
+        x.back();
+        Kit.port(x, "party 7;ink age 4;deed ink 1 from 2 to 0 sum 3;deed ink 1 from 2 to 0 sum 3");
+        Kit.is("not broke", x.broken(), 0);
+        Kit.is("coins", x.party(2, 0), 7);
+        Kit.is("keeps", x.ink(1, 1), 0);
+        Kit.is("soaks", x.ink(1, 2), 0);
+        int[] due = {1, 2, 0, 3, 0, -1, -1, 0, 0, -1, 0, 0};
+        for (int d = 0; d < 2; d++) {
+            for (int what = 0; what < due.length; what++) {
+                Kit.is("deed " + d + " " + what, x.deed(d, what), due[what]);
+            }
+        }
+        x.back();
+        for (int d = 0; d < 2; d++) {
+            Kit.is("written", x.write(0, 1, 0, 4, 0), d);
+            int[] written = {0, 1, 0, 4, 0, -1, -1, 0, 0, -1, 0, 0};
+            for (int what = 0; what < written.length; what++) {
+                Kit.is("deed " + d + " " + what, x.deed(d, what), written[what]);
+            }
+        }
     }
 
     private static void counts() {

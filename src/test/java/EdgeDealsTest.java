@@ -7,6 +7,7 @@ public final class EdgeDealsTest {
     public static void main(String[] args) {
         netBits();
         allReadings();
+        othersAsNow();
         fortunes();
         bestOfSeveral();
         worthCosts();
@@ -93,6 +94,26 @@ public final class EdgeDealsTest {
             Kit.is("one reading alone", read.party(0, what), due[what - 3]);
             Kit.is("one reading alone", read.party(1, what), other[what - 3]);
         }
+    }
+
+    /** Others as now: what is to be read stays so, and what is faded or burnt is to be read in no READING. */
+    private static void othersAsNow() {
+        LateInks x = Kit.made("party 9;party 9;ink age 50;ink age 1;ink age 1 keeps 1;deed ink 0 from 0 to 1 sum 5;deed ink 2 from 1 to 0 sum 7 term 20;"
+                + "deed ink 1 from 1 to 0 sum 0;deed ink 0 from 0 to 1 sum 3 on 2;deed ink 0 from 0 to 1 sum 11 but 2;deed ink 0 from 0 to 1 sum 2 on 1;"
+                + "deed ink 0 from 0 to 1 sum 1 but 1");
+        x.burn(0);
+        x.seasons(2);
+        // Of the blank ones 3 and 6 can be VALID, 4 and 5 can't.
+        int[] due = {0, 4, 8 | 64, 2};
+        int[] other = {-4, 0, 0, -2};
+        for (int what = 3; what <= 6; what++) {
+            Kit.is("of the creditor " + what, x.party(1, what), due[what - 3]);
+            Kit.is("of the debtor " + what, x.party(0, what), other[what - 3]);
+        }
+        x.salt(0);
+        Kit.is("worth", x.worth(1, 999, false), 8 | 64);
+        Kit.is("much", x.worth(1, 999, true), 4);
+        Kit.is("worth of the other", x.worth(0, 999, false), 0);
     }
 
     /** Rounded towards 0, on both sides of it. */
@@ -330,6 +351,9 @@ public final class EdgeDealsTest {
         LateInks first = Kit.made("ink age 1 keeps 1;ink age 1 keeps 2");
         Kit.is("two pairs, parted at 2", ask(first, 1, 1), 2);
         Kit.is("two inks", inks(first, 1, 1), 3);
+        // WRITTEN at 20 is the last that fits: at 22 one of two can be read; nobody WRITTEN at 21 could be read at 60.
+        Kit.is("the last written", ask(first, 20, 0, 21, 1), 22);
+        Kit.is("none written later", ask(Kit.made("ink age 61;ink age 39"), 59, 0), 0);
         LateInks half = Kit.made("ink age 1");
         // From 1 to 21 on: at 10 ten can be read and eleven not, at 11 the other way round.
         Kit.is("the least of the middle", ask(half), 10);
@@ -438,6 +462,12 @@ public final class EdgeDealsTest {
         Kit.is("of others", one.owes(2, 3) + one.owes(0, 3) + one.owes(3, 1), 0);
         one.seasons(9);
         Kit.is("paid", one.owes(0, 1) + one.owes(1, 0), 0);
+        LateInks paid = debts("deed ink 0 from 0 to 1 sum 6;deed ink 0 from 2 to 1 sum 5 term 9;deed ink 0 from 3 to 2 sum 9");
+        Kit.is("valid, but paid", paid.valid(), 7);
+        Kit.is("paid", paid.owes(0, 1) + paid.owes(3, 2), 0);
+        Kit.is("not paid", paid.owes(2, 1), 5);
+        Kit.is("what is paid is not cleared", paid.cleared(), 5);
+        Kit.is("nor does it make a pivot", paid.pivot(), 1);
         StringBuilder lines = new StringBuilder("deed ink 0 from 0 to 1 sum 99 term 9");
         for (int d = 1; d < 8; d++) {
             lines.append(";deed ink 0 from 0 to 1 sum 99 term 9");
@@ -553,11 +583,22 @@ public final class EdgeDealsTest {
         for (int d = 0; d < 3; d++) {
             Kit.is("none is the least", none.buyers(d), due[d]);
         }
+        none.write(0, 0, 1, 9, 0);
+        Kit.is("one more", none.buyers(-1), 8);
+        Kit.is("one more", none.buyers(3), 2);
+        none.undo();
+        Kit.is("as ahead of it", none.buyers(-1), 4);
+        Kit.is("as ahead of it", none.buyers(2), 2);
         // PARTY 2 has too few COINS for the dearer one, so it must have the cheaper one.
         LateInks able = Kit.made("party 9;party 9;party 4;party 9;ink age 1;deed ink 0 from 0 to 1 sum 5;deed ink 0 from 0 to 1 sum 9");
         Kit.is("how much", able.buyers(-1), 12);
         Kit.is("the poorer", able.buyers(0), 2);
         Kit.is("the richer", able.buyers(1), 3);
+        // PARTY 3 is able to buy the cheaper one alone, so PARTY 2 must not have it.
+        LateInks left = Kit.made("party 9;party 9;party 9;party 4;ink age 1;deed ink 0 from 0 to 1 sum 5;deed ink 0 from 0 to 1 sum 9");
+        Kit.is("how much", left.buyers(-1), 12);
+        Kit.is("not the least who is able", left.buyers(0), 3);
+        Kit.is("who is left", left.buyers(1), 2);
         // The creditor of one buys another.
         LateInks own = Kit.made("party 9;party 9;party 9;ink age 1;deed ink 0 from 0 to 1 sum 5;deed ink 0 from 1 to 2 sum 6;deed ink 0 from 2 to 0 sum 7");
         Kit.is("all three", own.buyers(-1), 4 + 5 + 6);

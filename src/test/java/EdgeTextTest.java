@@ -291,7 +291,13 @@ public final class EdgeTextTest {
         port("salt^`1");
         port("salt^{1");
         port("^p arty 1");
+        port("^pArty 1");
+        port("party^A 1");
+        port("party 1^x");
+        port("party 12^x");
         port("party 1 ^2");
+        port("party 1 ^000");
+        port("salt 1^salt 2");
     }
 
     /** Of a text that ends too early the length is the first wrong byte, blanks behind counted. */
