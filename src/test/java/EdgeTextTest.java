@@ -1,3 +1,4 @@
+import java.util.function.IntSupplier;
 import java.util.function.ToIntFunction;
 
 /**
@@ -35,6 +36,7 @@ public final class EdgeTextTest {
         wholeTape();
         faults();
         nothingStays();
+        atOnceBehindIt();
         Kit.end();
     }
 
@@ -715,6 +717,67 @@ public final class EdgeTextTest {
             Kit.law(x, text);
             Kit.is("a law", x.count(11), 0);
             Kit.is("none to undo", x.undo(), false);
+        }
+    }
+
+    private static int sheets(LateInks x, int call) {
+        x.feed(0x09001401, 0, 0, 0, 0);
+        x.end(4);
+        return call == 2 ? x.ask() : x.jars(call == 1);
+    }
+
+    private static int restsOfAll(LateInks x) {
+        int all = 0;
+        for (int i = 0; i < 36; i++) {
+            int party = i % 3;
+            int other = i / 3 % 3;
+            all = all * 31 + (party == other ? 0 : x.rests(party, other, i / 9));
+        }
+        return all;
+    }
+
+    /** Each call asked at once behind a wrong text, and behind SEASONS that do not stay, without another one between. */
+    private static void atOnceBehindIt() {
+        LateInks x = Kit.made("party 20;party 8;party 7;ink age 5 soaks 5;ink age 9 keeps 3 soaks 4;ink age 2 soaks 5;spray 40;"
+                + "damp summer 1;damp winter 5",
+                "deed ink 2 from 0 to 1 sum 9 term 3;deed ink 0 from 1 to 2 sum 4 on 0;deed ink 1 from 2 to 0 sum 5 but 0;deed ink 0 from 0 to 2 sum 3");
+        Kit.law(x, "cost 1 if sum>3");
+        x.seasons(1);
+        IntSupplier[] calls = {() -> x.count(0), () -> x.count(1), () -> x.count(2), () -> x.count(3), () -> x.count(4), () -> x.count(5), () -> x.count(6),
+            () -> x.count(7), () -> x.count(8), () -> x.count(9), () -> x.count(10), () -> x.count(11), () -> x.damp(0), () -> x.damp(3),
+            () -> x.party(0, 0), () -> x.party(0, 1), () -> x.party(0, 2), () -> x.party(1, 3), () -> x.party(1, 4), () -> x.party(1, 5),
+            () -> x.party(1, 6), () -> x.ink(0, 0), () -> x.ink(1, 1), () -> x.ink(1, 2), () -> x.ink(0, 3), () -> x.deed(1, 8), () -> x.deed(0, 9),
+            () -> x.deed(1, 10), () -> x.deed(0, 11), () -> x.deed(1, 12), () -> x.deed(1, 13), () -> x.deed(0, 14), () -> x.deed(1, 15), () -> x.reads(),
+            () -> x.blank(), () -> x.valid(), () -> x.when(1), () -> x.due(1), () -> x.ruin(false), () -> x.ruin(true), () -> x.wealth(0, 9),
+            () -> x.chain(1), () -> x.hangs(0), () -> x.late(), () -> x.net(0, 7), () -> x.worth(2, 9, false), () -> x.worth(2, 9, true),
+            () -> sheets(x, 0), () -> sheets(x, 1), () -> sheets(x, 2), () -> x.forged(0) ? 1 : 0, () -> x.apart(), () -> x.soonest(false),
+            () -> x.soonest(true), () -> x.owes(0, 1), () -> x.cleared(), () -> x.ring(0) ? 1 : 0, () -> x.pivot(), () -> x.buyers(-1), () -> x.buyers(3),
+            () -> restsOfAll(x), () -> x.worth(0, 0, true), () -> x.odds(4, 2), () -> x.early(1), () -> x.richest(), () -> x.alike(), () -> x.broken(),
+            () -> x.ahead(1, 2, 0), () -> x.trial(5, false), () -> x.trial(80, true), () -> x.span(5, false), () -> x.span(5, true),
+            () -> x.led(0, false), () -> x.led(0, true), () -> x.log(0, 0), () -> x.log(0, 2)};
+        String[] texts = {"party 99;ink age 1 soaks 1;damp spring 0;damp summer 9;salt 9;spray 7;deed ink 0 from 0 to 1 sum 9;?",
+            "deed ink 3", "ink age 1 soaks 9;ink age 1;?", "party 1;party 2;deed ink 0 from 3 to 4 sum 9 on 1;"};
+        int[] due = new int[calls.length];
+        for (int i = 0; i < calls.length; i++) {
+            due[i] = calls[i].getAsInt();
+        }
+        for (int i = 0; i < calls.length; i++) {
+            for (String text : texts) {
+                Kit.is("wrong", Kit.portFault(x, text) >= 0, true);
+                Kit.is("call " + i + " behind " + text, calls[i].getAsInt(), due[i]);
+            }
+            Kit.lawFault(x, "ripe 9;cost 9;slow 40 if");
+            Kit.is("call " + i + " behind a wrong law", calls[i].getAsInt(), due[i]);
+            x.wealth(0, 80);
+            Kit.is("call " + i + " behind seasons ahead", calls[i].getAsInt(), due[i]);
+            x.trial(80, true);
+            Kit.is("call " + i + " behind a trial", calls[i].getAsInt(), due[i]);
+        }
+        Runnable[] none = {() -> x.party(3, 0), () -> x.ink(3, 0), () -> x.deed(4, 0), () -> x.write(3, 0, 1, 1, 1), () -> x.lend(3, 0, 1),
+            () -> x.owes(0, 3), () -> x.warm(4, 0), () -> x.burn(4), () -> x.bar(4, 0), () -> x.when(4), () -> x.chain(4), () -> x.ring(3)};
+        for (Runnable call : none) {
+            Kit.portFault(x, texts[0]);
+            Kit.fails("none of these is there", Kit.BOUNDS, call);
         }
     }
 }
