@@ -1706,7 +1706,7 @@ public final class LateInks {
             reader.refuse();
         }
 
-        static int needKind(Reader reader) {
+        private static int needKind(Reader reader) {
             if (reader.takesWord("ripe")) {
                 return Law.RIPE;
             }
@@ -1717,7 +1717,7 @@ public final class LateInks {
             return Law.COST;
         }
 
-        static void readCondition(Law law, Reader reader, int depth) {
+        private static void readCondition(Law law, Reader reader, int depth) {
             readAtom(law, reader, depth);
             // An or waits for its code till what is joined to its right by and is whole.
             boolean orWaits = false;
@@ -1738,7 +1738,7 @@ public final class LateInks {
             }
         }
 
-        static void readAtom(Law law, Reader reader, int depth) {
+        private static void readAtom(Law law, Reader reader, int depth) {
             boolean isNot = reader.isAtWord("not");
             if (isNot || reader.isAtSign('(')) {
                 if (depth >= DEEPEST) {
@@ -1765,29 +1765,25 @@ public final class LateInks {
             }
         }
 
-        static void readSum(Law law, Reader reader) {
-            readPart(law, reader);
-            for (int i = 0; i < TAPE_BYTES && reader.isAtSign('+'); i++) {
-                reader.advance();
-                readPart(law, reader);
-                law.addCode(Law.PLUS);
+        private static void readSum(Law law, Reader reader) {
+            for (int i = 0; i < TAPE_BYTES && (i == 0 || reader.isAtSign('+')); i++) {
+                if (i > 0) {
+                    reader.advance();
+                }
+                int fact = factAtWord(reader);
+                if (fact == NONE) {
+                    law.addCode(reader.needNumber(0, MOST_NUMBER));
+                } else {
+                    reader.advance();
+                    law.addCode(Law.FIRST_FACT - fact);
+                }
+                if (i > 0) {
+                    law.addCode(Law.PLUS);
+                }
             }
         }
 
-        static void readPart(Law law, Reader reader) {
-            if (reader.kind == Reader.AT_NUMBER) {
-                law.addCode(reader.needNumber(0, MOST_NUMBER));
-                return;
-            }
-            int fact = factAtWord(reader);
-            if (fact == NONE) {
-                reader.refuse();
-            }
-            reader.advance();
-            law.addCode(Law.FIRST_FACT - fact);
-        }
-
-        static int factAtWord(Reader reader) {
+        private static int factAtWord(Reader reader) {
             if (reader.isAtWord("deed")) {
                 return Law.THE_DEED;
             }

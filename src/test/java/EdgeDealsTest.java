@@ -18,10 +18,12 @@ public final class EdgeDealsTest {
         forgedByOne();
         apartBySets();
         soonestWithin();
+        beyondTheLastTime();
         owesNets();
         clearedNets();
         rings();
         pivots();
+        pivotsOfOthers();
         prices();
         sold();
         firstWay();
@@ -443,6 +445,30 @@ public final class EdgeDealsTest {
         Kit.is("from winter on", winter.soonest(true), 1);
     }
 
+    /** The reckoning of JARS has no last TIME: behind 9999 it goes on with 10000, and so does the SEASON. */
+    private static void beyondTheLastTime() {
+        LateInks x = Kit.made("party 9;party 9;ink age 2;ink age 3;ink age 9 soaks 9;damp spring 9;damp winter 0;time 999");
+        for (int left = 8999; left > 0; left -= Math.min(80, left)) {
+            x.seasons(Math.min(80, left));
+        }
+        Kit.is("the last TIME but one", x.count(5), 9998);
+        x.write(0, 0, 1, 1, 0);
+        x.write(1, 0, 1, 1, 0);
+        x.seasons(3);
+        Kit.is("at the last TIME", x.deed(0, 9), 9999);
+        Kit.is("as it should be", x.forged(0), false);
+        Kit.is("at the last TIME, too", x.deed(1, 9), 9999);
+        Kit.is("it should be one later", x.forged(1), true);
+        Kit.is("the least of several", x.soonest(false), 0);
+        Kit.is("in two", x.soonest(true), 2);
+        LateInks soaking = Kit.made("ink age 9 soaks 9;damp spring 9;damp winter 0;time 999");
+        for (int i = 0; i < 114; i++) {
+            soaking.seasons(80);
+        }
+        Kit.is("the last TIME", soaking.count(5), 9999);
+        Kit.is("a winter and a spring", soaking.soonest(true), 2);
+    }
+
     // ---- debts ----
 
     private static LateInks debts(String lines) {
@@ -524,6 +550,16 @@ public final class EdgeDealsTest {
         Kit.is("of several the least", debts("deed ink 0 from 3 to 2 sum 5 term 9").pivot(), 2);
         // Without 1 it is 9 less, for without it what 0 and 2 have to do with it is gone.
         Kit.is("in the middle", debts("deed ink 0 from 0 to 1 sum 9 term 9;deed ink 0 from 1 to 2 sum 9 term 9;deed ink 0 from 0 to 3 sum 1 term 9").pivot(), 1);
+    }
+
+    /** The DEEDS taken away count no more; whether others are VALID stays as it is now (a choice: NOTES.md). */
+    private static void pivotsOfOthers() {
+        LateInks leans = debts("deed ink 0 from 0 to 1 sum 5 term 9;deed ink 0 from 2 to 3 sum 9 term 9 on 0");
+        Kit.is("all", leans.cleared(), 14);
+        Kit.is("one that leans on what is taken away", leans.pivot(), 2);
+        LateInks barred = debts("deed ink 0 from 0 to 1 sum 5 term 9;deed ink 0 from 2 to 3 sum 9 term 9 but 0");
+        Kit.is("all", barred.cleared(), 5);
+        Kit.is("one that is barred by what is taken away", barred.pivot(), 0);
     }
 
     // ---- deals ----
