@@ -390,6 +390,11 @@ public final class EdgeDealsTest {
         Kit.is("faded, but it came up", faded.forged(0), false);
         faded.burn(0);
         Kit.is("burnt, but it came up", faded.forged(0), false);
+        LateInks damp = Kit.made("party 99;party 99;ink age 5 soaks 5;" + DEED);
+        damp.seasons(3);
+        Kit.is("three times 2", damp.forged(0), false);
+        Kit.port(damp, "damp spring 9");
+        Kit.is("by DAMP as it is now", damp.forged(0), true);
         LateInks one = Kit.made("party 99;party 99;ink age 1;" + DEED);
         one.warm(0, 0);
         Kit.is("at once, as it should", one.forged(0), false);
